@@ -4,7 +4,9 @@ import java.lang.reflect.Method;
 import java.lang.reflect.Modifier;
 import java.nio.file.Files;
 import java.nio.file.Path;
+import java.util.Map;
 import java.util.Set;
+import java.util.TreeMap;
 import java.util.TreeSet;
 import java.util.regex.Matcher;
 import java.util.regex.Pattern;
@@ -112,5 +114,38 @@ public final class FaceTest {
             check(arrays.group().matches("    private final \\w+\\[\\] \\w+ = new \\w+\\[\\w+\\];"),
                 "rule 4: an array is made in its field's initialiser:" + arrays.group());
         }
+        checkCalls(bodies(code));
+    }
+
+    private static Map<String, String> bodies(String code) {
+        Map<String, String> bodies = new TreeMap<>();
+        Pattern form = Pattern.compile("(?m)^    (?:public|private)[\\w ]* (\\w+)\\(.*\\) \\{\\n((?s:.*?))^    \\}$");
+        Matcher methods = form.matcher(code);
+        while (methods.find()) {
+            bodies.put(methods.group(1), methods.group(2));
+        }
+        return bodies;
+    }
+
+    private static void checkCalls(Map<String, String> bodies) {
+        check(bodies.keySet().containsAll(Set.of("BlockKdTrees", "add", "merge")), "the methods can be read off");
+        String call = "\\b(" + String.join("|", bodies.keySet()) + ")\\(";
+        for (String name : bodies.keySet()) {
+            String body = bodies.get(name);
+            check(body.lines().count() <= 60, "rule 10: " + name + " is short");
+            check(!Pattern.compile(call + "[^()]*" + call).matcher(body).find(), "rule 10: a call in a call's arguments");
+            check(!Pattern.compile("\\b(while|do)\\b").matcher(body).find(), "rule 8: " + name + " loops by a counter");
+            check(depth(name, bodies, Pattern.compile(call), 1) <= 6, "rules 8 and 10: at most six deep from " + name);
+        }
+    }
+
+    /** Stops past six, so that a recursion is told as too deep. */
+    private static int depth(String name, Map<String, String> bodies, Pattern call, int above) {
+        int most = 1;
+        Matcher calls = call.matcher(bodies.get(name));
+        while (above <= 6 && calls.find()) {
+            most = Math.max(most, 1 + depth(calls.group(1), bodies, call, above + 1));
+        }
+        return most;
     }
 }

@@ -265,9 +265,12 @@ public final class PlaceEdgesTest {
         Due.due("closest(), the last two", at(0, 0, 30, 30, 60, 60, 60, 62).closest(), 4);
         Due.due("closest(), the first and the last", at(0, 0, 30, 30, 60, 60, 0, 2).closest(), 4);
         Due.due("closest(), squares and not sums", at(0, 0, 3, 3, 50, 50, 55, 50).closest(), 18);
+        BlockKdTrees first = at(0, 0, 0, 2, 30, 30, 30, 35);
+        first.remove(0);
+        Due.due("closest() without the first of the two", first.closest(), 25);
         BlockKdTrees t = at(0, 0, 0, 2, 30, 30, 30, 35);
         t.remove(1);
-        Due.due("closest() after a remove", t.closest(), 25);
+        Due.due("closest() without the second of the two", t.closest(), 25);
         t.move(3, 30, 30);
         Due.due("closest() after a move", t.closest(), 0);
         BlockKdTrees full = new BlockKdTrees();

@@ -186,7 +186,7 @@ public final class RectangleEdgesTest {
 
     private static void noNext() {
         for (State state : State.EACH) {
-            for (int from : new int[] {state.added(), 200, 201, 4096, Due.GREATEST - 1, Due.GREATEST}) {
+            for (int from : new int[] {state.added(), 200, 201, 256, 65536, Due.GREATEST - 1, Due.GREATEST}) {
                 Due.refused(state, "next(all, " + from + ")", t -> t.next(Due.ALL, Due.ALL, from), Due.NONE);
             }
         }

@@ -24,13 +24,14 @@ final class Due {
         4096 + ALL, 2 * 4096 - 1, ALL - 4096, 65536 + ALL, LEAST + ALL, LEAST + 1, GREATEST - 1, GREATEST - 63
     };
 
-    private static final int SHOWN = 40;
+    private static final int SHOWN_OF_EACH = 5;
 
     private static final Map<State, List<Integer>> UNTOUCHED = new HashMap<>();
 
     private static String sentence = "";
     private static int sentences = 0;
     private static int wrong = 0;
+    private static int wrongInSentence = 0;
 
     private Due() {
     }
@@ -47,6 +48,7 @@ final class Due {
     static void sentence(String where, String words, Runnable test) {
         sentence = where + " \"" + words + "\"";
         sentences++;
+        wrongInSentence = 0;
         try {
             test.run();
         } catch (RuntimeException | Error thrown) {
@@ -87,7 +89,8 @@ final class Due {
 
     private static void tell(String what) {
         wrong++;
-        if (wrong <= SHOWN) {
+        wrongInSentence++;
+        if (wrongInSentence <= SHOWN_OF_EACH) {
             System.out.println(sentence + ": " + what);
         }
     }
