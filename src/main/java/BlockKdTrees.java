@@ -1,7 +1,7 @@
 /**
  * Points with weights that come and go, and what lies in a rectangle, near a place, above a line of weight.
  *
- * A point's number is its index in the arrays. Numbers are never used twice and end at 200, so a scan over all of
+ * A point's number is its index in the arrays. Numbers are never used twice and end at 199, so a scan over all of
  * them is short, and it meets the points in the order of their numbers, which settles every tie.
  */
 public final class BlockKdTrees {
